@@ -52,10 +52,19 @@ public final class SumOfTwoThatStand {
         return letters.take(letter);
     }
 
+    /** All comes in mind first: so a fault far behind leaves the street as it was. */
     public int street() {
-        int answer = readStreet();
+        mind.become(live);
+        int fault = letters.faultOfForm();
+        if (fault == 0) {
+            fault = letters.faultOfSense(mind);
+        }
         letters.forget();
-        return answer;
+        if (fault != 0) {
+            return fault;
+        }
+        live.become(mind);
+        return letters.statementCount();
     }
 
     public int house(int house, int what) {
@@ -297,21 +306,6 @@ public final class SumOfTwoThatStand {
         return what == 0 || what == 1;
     }
 
-    /** The letters come in mind first: so a fault far behind leaves the street as it was. */
-    private int readStreet() {
-        int place = letters.faultOfForm();
-        if (place >= 0) {
-            return -1000 - place;
-        }
-        mind.become(live);
-        place = letters.faultOfSense(mind);
-        if (place >= 0) {
-            return -2000 - place;
-        }
-        live.become(mind);
-        return letters.statementCount();
-    }
-
     /** Every sum is tried as the first of both: it may be the latest, or a hut falls behind it. */
     private boolean comesNextButOne(int n) {
         for (int one = 0; one < live.cameCount(); one++) {
@@ -341,7 +335,7 @@ public final class SumOfTwoThatStand {
     }
 
     private static int draw(int seed, int below) {
-        return below < 1 ? 0 : ((seed & Integer.MAX_VALUE) >>> 16) % below;
+        return below < 1 ? 0 : ((seed & 0x7fffffff) >>> 16) % below;
     }
 
     /** The houses that came, and the laws: all that an image holds. */
@@ -606,29 +600,22 @@ public final class SumOfTwoThatStand {
         }
     }
 
-    /** A street told in letters: its statements are read one by one from where the reading is. */
-    private static final class Letters {
-        private static final int NO_FAULT = -1;
-
-        private final int[] text = new int[MOST_LETTERS];
-        private final int[] figures = new int[4];
+    /** Letters or numbers told one by one, as long as there is room, until they are forgotten. */
+    private static class Told {
+        private final int[] all;
         private int length;
-        private int at;
-        private int verb;
-        private int figureCount;
-        private int statements;
 
-        Letters() {
-            length = 0;
+        Told(int most) {
+            all = new int[Math.max(most, 0)];
         }
 
         boolean hasRoom() {
-            return length < MOST_LETTERS;
+            return length < all.length;
         }
 
-        int take(int letter) {
+        int take(int one) {
             if (hasRoom()) {
-                text[length] = letter;
+                all[length] = one;
                 length++;
             }
             return length;
@@ -642,33 +629,54 @@ public final class SumOfTwoThatStand {
             return length;
         }
 
+        /** No letter and no number is below 0: so -1 is neither. */
+        int toldAt(int place) {
+            return place >= 0 && place < length ? all[place] : -1;
+        }
+    }
+
+    /** A street told in letters: its statements are read one by one from where the reading is. */
+    private static final class Letters extends Told {
+        private static final int OF_FORM = -1000;
+        private static final int OF_SENSE = -2000;
+
+        private final int[] figures = new int[4];
+        private int at;
+        private int verb;
+        private int figureCount;
+        private int statements;
+
+        Letters() {
+            super(MOST_LETTERS);
+        }
+
         int statementCount() {
             return statements;
         }
 
-        /** The place of the first letter with which no street can go on. */
+        /** 0, or the fault at the first letter with which no street can go on. */
         int faultOfForm() {
             at = 0;
             statements = 0;
-            for (int i = 0; i < MOST_LETTERS && (i == 0 || at < length); i++) {
+            for (int i = 0; i < MOST_LETTERS && (i == 0 || at < howMany()); i++) {
                 if (!readStatement()) {
-                    return at;
+                    return OF_FORM - at;
                 }
                 statements++;
             }
-            return NO_FAULT;
+            return 0;
         }
 
-        /** The place of the first statement that can't come; those ahead of it have come. */
+        /** 0, or the fault at the first statement that can't come; those ahead of it have come then. */
         int faultOfSense(Street street) {
             at = 0;
             for (int i = 0; i < statements; i++) {
                 int begin = at;
                 if (!readStatement() || !comesTo(street)) {
-                    return begin;
+                    return OF_SENSE - begin;
                 }
             }
-            return NO_FAULT;
+            return 0;
         }
 
         private boolean comesTo(Street street) {
@@ -684,7 +692,7 @@ public final class SumOfTwoThatStand {
 
         /** Stops at the first letter that is wrong, so that its place can be told. */
         private boolean readStatement() {
-            verb = letterAt(at);
+            verb = toldAt(at);
             figureCount = 0;
             String form = formOf(verb);
             if (form.isEmpty()) {
@@ -717,7 +725,7 @@ public final class SumOfTwoThatStand {
             if (part == 'd') {
                 return readFigure(1);
             }
-            if (letterAt(at) != part) {
+            if (toldAt(at) != part) {
                 return false;
             }
             at++;
@@ -727,8 +735,8 @@ public final class SumOfTwoThatStand {
         private boolean readFigure(int mostDigits) {
             int figure = 0;
             int digits = 0;
-            while (digits < mostDigits && isDigit(letterAt(at))) {
-                figure = figure * 10 + letterAt(at) - '0';
+            while (digits < mostDigits && isDigit(toldAt(at))) {
+                figure = figure * 10 + toldAt(at) - '0';
                 at++;
                 digits++;
             }
@@ -739,47 +747,20 @@ public final class SumOfTwoThatStand {
             return digits > 0;
         }
 
-        private int letterAt(int place) {
-            return place >= 0 && place < length ? text[place] : -1;
-        }
-
         private static boolean isDigit(int letter) {
             return letter >= '0' && letter <= '9';
         }
     }
 
-    /** Numbers told one by one, in any order of size, until they are judged. */
-    private static final class Row {
-        private final int[] numbers = new int[MOST_IN_ROW];
-        private int length;
-
+    /** Numbers in any order of size, to be judged. */
+    private static final class Row extends Told {
         Row() {
-            length = 0;
-        }
-
-        boolean hasRoom() {
-            return length < MOST_IN_ROW;
-        }
-
-        int take(int number) {
-            if (hasRoom()) {
-                numbers[length] = number;
-                length++;
-            }
-            return length;
-        }
-
-        void forget() {
-            length = 0;
-        }
-
-        int howMany() {
-            return length;
+            super(MOST_IN_ROW);
         }
 
         int firstWrong() {
-            for (int place = 0; place < length; place++) {
-                boolean isRight = place == 0 ? numbers[place] == 1 : isNew(place) && isSum(place);
+            for (int place = 0; place < howMany(); place++) {
+                boolean isRight = place == 0 ? toldAt(0) == 1 : isNew(place) && isSum(place);
                 if (!isRight) {
                     return place;
                 }
@@ -789,7 +770,7 @@ public final class SumOfTwoThatStand {
 
         private boolean isNew(int place) {
             for (int ahead = 0; ahead < place; ahead++) {
-                if (numbers[ahead] == numbers[place]) {
+                if (toldAt(ahead) == toldAt(place)) {
                     return false;
                 }
             }
@@ -799,7 +780,7 @@ public final class SumOfTwoThatStand {
         private boolean isSum(int place) {
             for (int one = 0; one < place; one++) {
                 for (int other = one; other < place; other++) {
-                    if (numbers[one] + numbers[other] == numbers[place]) {
+                    if (toldAt(one) + toldAt(other) == toldAt(place)) {
                         return true;
                     }
                 }
