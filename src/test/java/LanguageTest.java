@@ -22,6 +22,7 @@ public final class LanguageTest {
 
     public static void main(String[] args) throws Exception {
         face();
+        limits(SumOfTwoThatStand.class);
         words();
         made();
         Due.end();
@@ -48,6 +49,25 @@ public final class LanguageTest {
         for (Class<?> inside : SumOfTwoThatStand.class.getDeclaredClasses()) {
             Due.is("static: " + inside, Modifier.isStatic(inside.getModifiers()) ? 1 : 0, 1);
             Due.is("not public: " + inside, Modifier.isPublic(inside.getModifiers()) ? 1 : 0, 0);
+        }
+    }
+
+    /** Rules 5 and 11: static fields are final, a class has few fields, a method few parameters. */
+    private static void limits(Class<?> type) {
+        int fields = 0;
+        for (Field field : type.getDeclaredFields()) {
+            boolean isStatic = Modifier.isStatic(field.getModifiers());
+            fields += isStatic ? 0 : 1;
+            Due.is("final: " + field, !isStatic || Modifier.isFinal(field.getModifiers()) ? 1 : 0, 1);
+        }
+        Due.is("some twenty fields: " + type, fields <= 20 ? 1 : 0, 1);
+        for (Method method : type.getDeclaredMethods()) {
+            Due.is("seven parameters: " + method, method.getParameterCount() <= 7 ? 1 : 0, 1);
+        }
+        Class<?>[] inside = type.getDeclaredClasses();
+        Due.is("some twelve classes: " + type, inside.length < 12 ? 1 : 0, 1);
+        for (Class<?> one : inside) {
+            limits(one);
         }
     }
 
