@@ -899,7 +899,7 @@ public final class SumOfTwoThatStand {
                 return 1;
             }
             int factor = leastFactor(n);
-            if (factor == n) {
+            if (factor < 2 || factor == n) {
                 return splitDown(n - 1, depth + 1) + 1;
             }
             return splitDown(factor, depth + 1) + splitDown(n / factor, depth + 1) - 1;
